@@ -39,10 +39,13 @@ public final class ElderChest {
   private final Elders elders = new Elders();
   private final Texts texts = new Texts();
   private final Hangings hangings = new Hangings();
-  private final Elders keptElders = new Elders();
-  private final Texts keptTexts = new Texts();
-  private final Hangings keptHangings = new Hangings();
+  // What image() keeps. TEXTS and HANGINGS never change once they are made, and only undo() takes
+  // any of them away, back to those that were there: so it is enough how many they were.
   private boolean kept;
+  private final Elders keptElders = new Elders();
+  private int keptTexts;
+  private int keptUsed;
+  private int keptHangings;
   private final Tape tape = new Tape();
   private final TextReader reader = new TextReader(tape);
   private final Openings openings = new Openings();
@@ -475,8 +478,9 @@ public final class ElderChest {
 
   public int image() {
     keptElders.takeFrom(elders);
-    keptTexts.takeFrom(texts);
-    keptHangings.takeFrom(hangings);
+    keptTexts = texts.count;
+    keptUsed = texts.used;
+    keptHangings = hangings.count;
     kept = true;
     return 1;
   }
@@ -486,8 +490,8 @@ public final class ElderChest {
       return findings.tell(NONE);
     }
     elders.takeFrom(keptElders);
-    texts.takeFrom(keptTexts);
-    hangings.takeFrom(keptHangings);
+    texts.goBack(keptTexts, keptUsed);
+    hangings.goBack(keptHangings);
     return hangings.count;
   }
 
@@ -613,9 +617,6 @@ public final class ElderChest {
   private int fewestBesides(int h, int had) {
     // A KEY for which there is no LOCK, or that is had, is never one of the fewest.
     int useful = hangings.keysOfLocks() & ~had;
-    if (!hangings.isOpenInTheEnd(h, had | useful)) {
-      return 0;
-    }
     for (int many = 1; many <= MOST_NEEDED; many++) {
       for (int keys = (1 << many) - 1; keys < 1 << KEYS; keys = nextOfAsMany(keys)) {
         if ((keys & ~useful) == 0 && hangings.isOpenInTheEnd(h, had | keys)) {
@@ -660,15 +661,13 @@ public final class ElderChest {
   }
 
   /**
-   * Whether a KEY on a RING is spare. Of the openings it reads only what the SETS without that
-   * ELDER have, and which SETS with it OPEN the HANGING: spare KEYS that go change neither.
+   * Whether a KEY on a RING is spare: it always is if no SET of ALL has that ELDER. Of the openings
+   * this reads only what the SETS without the ELDER have, and which SETS with it OPEN the HANGING:
+   * spare KEYS that go from its RING change neither.
    */
   private boolean isSpare(int h, int elder, int key) {
     int one = 1 << elder;
     int all = elders.present();
-    if ((all & one) == 0) {
-      return true;
-    }
     int ring = elders.rings[elder] & ~(1 << key);
     for (int set = one; set <= all; set++) {
       int others = set & ~one;
@@ -926,13 +925,9 @@ public final class ElderChest {
       }
     }
 
-    void takeFrom(Texts other) {
-      count = other.count;
-      used = other.used;
-      for (int text = 0; text < count; text++) {
-        lengths[text] = other.lengths[text];
-        System.arraycopy(other.codes[text], 0, codes[text], 0, lengths[text]);
-      }
+    void goBack(int toCount, int toUsed) {
+      count = toCount;
+      used = toUsed;
       changes++;
     }
   }
@@ -982,25 +977,17 @@ public final class ElderChest {
       length = 0;
       end = 0;
       advance();
-      return readTextTokens() ? -1 : start;
-    }
-
-    boolean readTextTokens() {
-      if (!pass(MAY) || !readEither(0)) {
-        return false;
-      }
-      if (token == NEVER) {
+      boolean right = pass(MAY) && readEither(0);
+      if (right && token == NEVER) {
         advance();
-        if (!readEither(0)) {
-          return false;
-        }
+        right = readEither(0);
         emit(Texts.NOT, 0, 0);
         emit(Texts.AND, 0, 0);
       }
-      return token == END;
+      return right && token == END ? -1 : start;
     }
 
-    /** E. These three carry how many ( and not are open. */
+    /** E. This and the next three carry how many ( and not are open. */
     boolean readEither(int open) {
       boolean right = readBoth(open);
       for (int i = 0; right && token == OR && i < MOST_BYTES; i++) {
@@ -1037,7 +1024,9 @@ public final class ElderChest {
     boolean readOne(int open) {
       switch (token) {
         case LEAST:
-          return readLeast();
+          advance();
+          int least = value;
+          return pass(NUMBER) && pass(OF) && readPart() && emit(Texts.LEAST_OF, least, part);
         case ALL:
           advance();
           return readPart() && emit(Texts.ALL_OF, 0, part);
@@ -1059,12 +1048,6 @@ public final class ElderChest {
       }
     }
 
-    boolean readLeast() {
-      advance();
-      int least = value;
-      return pass(NUMBER) && pass(OF) && readPart() && emit(Texts.LEAST_OF, least, part);
-    }
-
     boolean readPart() {
       if (token == EVERYONE_WORD) {
         part = EVERYONE;
@@ -1072,19 +1055,12 @@ public final class ElderChest {
         return true;
       }
       part = 0;
-      return pass(OPEN_LIST) && readListed() && pass(CLOSE_LIST);
-    }
-
-    /** One NUMBER or more. */
-    boolean readListed() {
-      for (int i = 0; token == NUMBER && i < MOST_BYTES; i++) {
-        if (value >= MOST_ELDERS) {
-          return false;
-        }
+      boolean right = pass(OPEN_LIST);
+      for (int i = 0; right && token == NUMBER && value < MOST_ELDERS && i < MOST_BYTES; i++) {
         part |= 1 << value;
         advance();
       }
-      return part != 0;
+      return part != 0 && pass(CLOSE_LIST);
     }
 
     /** Goes on behind a TOKEN, if it is this one. */
@@ -1214,6 +1190,8 @@ public final class ElderChest {
     int changes;
     final int[] kinds = new int[MOST_HANGINGS];
     final int[] keys = new int[MOST_HANGINGS];
+    /** KEYS with which a LOCK opens: of an OLD one two, of what is no LOCK none. */
+    final int[] openers = new int[MOST_HANGINGS];
     final int[] firsts = new int[MOST_HANGINGS];
     final int[] seconds = new int[MOST_HANGINGS];
     final int[] costs = new int[MOST_HANGINGS];
@@ -1235,51 +1213,46 @@ public final class ElderChest {
     }
 
     int addLock(int key, boolean old) {
-      kinds[count] = old ? OLD : LOCK;
-      keys[count] = key;
-      firsts[count] = 0;
-      seconds[count] = 0;
-      costs[count] = old ? 2 : 3;
-      locks[count] = 1;
-      changes++;
-      return count++;
+      return add(old ? OLD : LOCK, key, 0, 0, old ? 2 : 3, 1);
     }
 
     int addChain(int a, int b, boolean row) {
-      kinds[count] = row ? ROW : CHAIN;
-      keys[count] = 0;
-      firsts[count] = a;
-      seconds[count] = b;
-      costs[count] = (row ? 2 : 1) + costs[a] + costs[b];
-      locks[count] = locks[a] + locks[b];
-      changes++;
-      return count++;
+      int cost = (row ? 2 : 1) + costs[a] + costs[b];
+      return add(row ? ROW : CHAIN, 0, a, b, cost, locks[a] + locks[b]);
     }
 
     int addBox(int about, int key) {
-      kinds[count] = BOX;
+      return add(BOX, key, about, 0, 4 + costs[about], locks[about]);
+    }
+
+    int add(int kind, int key, int first, int second, int cost, int lockCount) {
+      kinds[count] = kind;
       keys[count] = key;
-      firsts[count] = about;
-      seconds[count] = 0;
-      costs[count] = 4 + costs[about];
-      locks[count] = locks[about];
+      openers[count] = openersOf(kind, key);
+      firsts[count] = first;
+      seconds[count] = second;
+      costs[count] = cost;
+      locks[count] = lockCount;
       changes++;
       return count++;
     }
 
-    /** KEYS with which a LOCK opens: of an OLD one two. */
-    int keysOfLock(int h) {
-      int own = 1 << keys[h];
-      return kinds[h] == OLD ? own | 1 << (keys[h] + 1) % KEYS : own;
+    static int openersOf(int kind, int key) {
+      switch (kind) {
+        case LOCK:
+          return 1 << key;
+        case OLD:
+          return 1 << key | 1 << (key + 1) % KEYS;
+        default:
+          return 0;
+      }
     }
 
     /** KEYS for which there is a LOCK. */
     int keysOfLocks() {
       int all = 0;
       for (int h = 0; h < count; h++) {
-        if (isOf(h, LOCK)) {
-          all |= keysOfLock(h);
-        }
+        all |= openers[h];
       }
       return all;
     }
@@ -1307,7 +1280,7 @@ public final class ElderChest {
         case BOX:
           return first != 0;
         default:
-          return (had & keysOfLock(h)) != 0;
+          return (had & openers[h]) != 0;
       }
     }
 
@@ -1362,14 +1335,8 @@ public final class ElderChest {
       return 0;
     }
 
-    void takeFrom(Hangings other) {
-      count = other.count;
-      System.arraycopy(other.kinds, 0, kinds, 0, count);
-      System.arraycopy(other.keys, 0, keys, 0, count);
-      System.arraycopy(other.firsts, 0, firsts, 0, count);
-      System.arraycopy(other.seconds, 0, seconds, 0, count);
-      System.arraycopy(other.costs, 0, costs, 0, count);
-      System.arraycopy(other.locks, 0, locks, 0, count);
+    void goBack(int toCount) {
+      count = toCount;
       changes++;
     }
   }
@@ -1387,9 +1354,8 @@ public final class ElderChest {
         return;
       }
       stamp = now;
-      endKeys[0] = hangings.keysInTheEnd(0);
-      open[0] = hangings.openInTheEnd(0);
       int all = elders.present();
+      // The empty SET has no KEY and OPENS nothing, as it stands at place 0 from the first.
       for (int set = 1; set <= all; set++) {
         if ((set & ~all) == 0) {
           fill(set, elders.rings[Integer.numberOfTrailingZeros(set)], hangings);

@@ -64,7 +64,12 @@ final class HangingsTest {
     Due.due("14: kind of a ROW", x.hanging(3, 0), ROW);
     Due.due("14: its first", x.hanging(3, 2), 2);
     Due.due("14: its second", x.hanging(3, 3), 0);
-    ElderChest y = full();
+    ElderChest y = new ElderChest();
+    y.lock(3, true);
+    for (int i = 1; i < 40; i++) {
+      Due.due("14: up to 40", y.chain(i - 1, 0, i % 2 == 0), i);
+    }
+    y = full();
     Due.due("14: FULL", y.chain(0, 1, false), Due.FULL);
     Due.due("14: FULL, row", y.chain(39, 39, true), Due.FULL);
     Due.due("14: BEYOND ahead of FULL", y.chain(0, 40, false), Due.BEYOND);
@@ -85,7 +90,13 @@ final class HangingsTest {
     Due.due("15: its kind", x.hanging(2, 0), BOX);
     Due.due("15: its KEY", x.hanging(1, 1), 23);
     Due.due("15: what it is about", x.hanging(2, 2), 1);
-    ElderChest y = full();
+    ElderChest y = new ElderChest();
+    y.lock(3, true);
+    for (int i = 1; i < 40; i++) {
+      Due.due("15: up to 40", y.box(i - 1, i % 24), i);
+      Due.due("15: COST", y.hanging(i, 4), 2 + 4 * i);
+    }
+    y = full();
     Due.due("15: FULL", y.box(0, 0), Due.FULL);
     Due.due("15: BEYOND ahead of FULL", y.box(40, 0), Due.BEYOND);
     Due.due("15: BEYOND ahead of FULL, key", y.box(0, 24), Due.BEYOND);

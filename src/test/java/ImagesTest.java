@@ -54,6 +54,9 @@ final class ImagesTest {
       x.key(2, 9, true);
       x.lend(0, 1, 9);
       x.lend(0, 2, 9);
+      x.key(1, 1, false);
+      x.key(1, 5, true);
+      x.lend(1, 0, 5);
       Due.due("41: undo()", x.undo(), 2);
       stateIsFilled(x);
     }
@@ -81,6 +84,9 @@ final class ImagesTest {
     Due.due("41: lets(0, 0)", x.lets(0, 0), 1);
     Due.due("41: opens(1, 2)", x.opens(1, 2), 1);
     Due.due("41: could(0): KEY 0 was lent to 1", x.could(0), 3);
+    int nine = x.lock(9, false);
+    Due.due("41: could(2): KEY 9 was lent to none", x.could(nine), 0);
+    Due.due("41: a HANGING that came since goes", x.undo(), 2);
   }
 
   /** What comes at the place of something undone knows nothing of that. */

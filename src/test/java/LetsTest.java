@@ -41,6 +41,9 @@ final class LetsTest {
     x.box(0, 1);
     setsAre("23: a gets the KEY of b from a BOX", x, 4, false, 1, 2);
     wrongCalls("23", x, false);
+    setsAre("23: a HANGING that came since", x, x.lock(2, false), false, 4);
+    setsAre("23: a CHAIN that came since", x, x.chain(0, 2, true), false, 5, 6);
+    setsAre("23: a BOX that came since", x, x.box(2, 20), false, 4);
   }
 
   private static void promise24Shut() {
@@ -97,6 +100,10 @@ final class LetsTest {
     x.use(0);
     x.gone(2, true);
     Due.due("25: NONE while c is GONE", x.wrongly(4), Due.NONE);
+    x.gone(2, false);
+    Due.read(x, "may any everyone never all everyone");
+    x.use(2);
+    Due.due("25: ALL alone", x.wrongly(4), 7);
   }
 
   private static void promise26Lacks() {
@@ -113,15 +120,19 @@ final class LetsTest {
     Due.read(x, "may weigh 0");
     x.use(1);
     Due.due("26: the empty SET", x.lacks(4), 0);
+    x.gone(1, false);
+    Due.read(x, "may all everyone");
+    x.use(2);
+    int never = x.lock(20, false);
+    Due.due("26: ALL alone", x.lacks(never), 7);
   }
 
   private static void promise27Same() {
     ElderChest x = three();
     x.chain(0, 1, true);
     x.chain(0, 2, true);
-    int both = x.chain(5, 6, false);
-    Due.due("27: same(4, 7)", x.same(4, both), 1);
-    Due.due("27: same(7, 4)", x.same(both, 4), 1);
+    Due.due("27: same(4, 7)", x.same(4, x.chain(5, 6, false)), 1);
+    Due.due("27: same(7, 4)", x.same(7, 4), 1);
     Due.due("27: same(4, 5)", x.same(4, 5), 0);
     Due.due("27: same(4, 4)", x.same(4, 4), 1);
     x.gone(2, true);
@@ -132,6 +143,10 @@ final class LetsTest {
     Due.due("27: two that nobody opens", x.same(never, x.lock(21, false)), 1);
     x.key(0, 20, true);
     Due.due("27: one that somebody opens", x.same(never, never + 1), 0);
+    x.gone(2, true);
+    x.key(0, 20, false);
+    int both = x.chain(0, 1, true);
+    Due.due("27: ALL alone OPEN one of them", x.same(both, never), 0);
     int many = x.look(4);
     int[][] wrong = {{-1, 0}, {0, -1}, {many, 0}, {0, many}, {many, many},
         {Integer.MIN_VALUE, Integer.MAX_VALUE}};

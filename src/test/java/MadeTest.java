@@ -57,14 +57,17 @@ final class MadeTest {
     Due.read(x, "may any [0] never any [1]");
     Due.due("31: KIND", x.build(), Due.KIND);
     Due.read(x, "may weigh 0");
+    Due.read(x, "may not any everyone");
+    x.use(2);
+    Due.due("31: KIND, the empty SET MAY alone", x.build(), Due.KIND);
     x.use(1);
     Due.due("31: NONE", x.build(), Due.NONE);
     Due.read(x, "may least 2 of [0 1 2 3 4 5 6] and least 3 of [7 8 9]");
-    x.use(2);
+    x.use(3);
     // 7 SETS with one of 0 to 6 and all of 7 to 9, 3 with all of 0 to 6 and two of 7 to 9.
     Due.due("31: ten of MOST", x.most(-1), 10);
     Due.read(x, "may least 3 of [0 1 2 3 4 5]");
-    x.use(3);
+    x.use(4);
     Due.due("31: fifteen of MOST", x.most(-1), 15);
     for (int i = 0; i < 12; i++) {
       x.lock(0, false);
@@ -73,7 +76,7 @@ final class MadeTest {
     Due.due("31: a finding empties no RING", x.of(0, 2), 8);
     Due.due("31: a finding makes no HANGING", x.look(4), 12);
     Due.read(x, "may least 3 of everyone");
-    x.use(4);
+    x.use(5);
     Due.due("31: more than 24 of them", x.most(-1), 45);
     Due.due("31: FULL with more than 24", x.build(), Due.FULL);
     x.use(0);
@@ -144,7 +147,9 @@ final class MadeTest {
     Due.read(x, "may weigh 99");
     x.use(2);
     Due.due("32: NONE, none MAY", x.fewest(), Due.NONE);
-    x.use(0);
+    Due.read(x, "may not any everyone");
+    x.use(3);
+    Due.due("32: KIND, the empty SET MAY alone", x.fewest(), Due.KIND);
     x.elder(1);
     x.elder(1);
     x.elder(1);

@@ -5,6 +5,7 @@ import java.util.Random;
 /** Runs of random calls on an ElderChest and a PlainChest, which must answer alike. */
 final class RandomRunsTest {
   private static final int RUNS = 320;
+  /** The latest step of a run may go some calls beyond. */
   private static final int CALLS = 400;
 
   private final Random random;
@@ -30,7 +31,7 @@ final class RandomRunsTest {
   public static void main(String[] args) {
     for (int seed = 0; seed < RUNS; seed++) {
       RandomRunsTest run = new RandomRunsTest(seed);
-      for (int i = 0; i < CALLS && !run.apart; i++) {
+      for (int i = 0; run.calls.size() < CALLS && i < 2 * CALLS && !run.apart; i++) {
         run.step(i);
       }
       if (run.apart) {

@@ -70,8 +70,20 @@ final class TextsTest {
     Due.due("7: no TEXT came of it", y.look(2), 0);
     Due.due("7: nor THE TEXT", y.look(3), -1);
     Due.due("7: the same FAULT again", y.text(), -11);
+    nothingStaysOfAFault();
     y.feed(' ', 1);
     Due.due("7: the same FAULT still", y.text(), -11);
+  }
+
+  private static void nothingStaysOfAFault() {
+    ElderChest x = Due.withElders(1);
+    for (int i = 0; i < 15; i++) {
+      String tooShort = "may weigh 0 or weigh 0 or weigh 0 or weigh 0 or weigh 0 or weigh 0 or";
+      Due.due("7: a long FAULT", Due.read(x, tooShort), -1 - tooShort.length());
+    }
+    Due.due("7: a TEXT behind them", Due.read(x, "may weigh 1 never weigh 2"), 0);
+    Due.due("7: it is as it was read", x.may(0, 1), 1);
+    Due.due("7: it is as it was read, the empty SET", x.may(0, 0), 0);
   }
 
   private static void promise7Faults() {
@@ -151,6 +163,9 @@ final class TextsTest {
     faultIs("may any [0] @ @", 12);
     faultIs("may { weigh 1 }", 4);
     faultIs("may weigh 1`", 11);
+    faultIs("may weigh 1{", 11);
+    faultIs("may weigh 1 orz", 12);
+    faultIs("may weigh 1 ora", 12);
   }
 
   private static void promise7Depth() {
