@@ -725,11 +725,8 @@ public final class ElderChest {
     }
 
     int add(int weight) {
+      // The rest of this place is 0: nothing was put there, or undo() took it back.
       weights[count] = weight;
-      // An undone ELDER may have left its things at this place.
-      rings[count] = 0;
-      lentTimes[count] = 0;
-      lentKeys[count] = 0;
       changes++;
       return count++;
     }
