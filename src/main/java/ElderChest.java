@@ -46,8 +46,8 @@ public final class ElderChest {
   private int keptTexts;
   private int keptUsed;
   private int keptHangings;
-  private final Tape tape = new Tape();
-  private final TextReader reader = new TextReader(tape);
+  private final TextReader reader = new TextReader();
+  private final Tape tape = reader.tape;
   private final Openings openings = new Openings();
   private final Family allowed = new Family();
   private final Family opening = new Family();
@@ -953,7 +953,7 @@ public final class ElderChest {
     static final int MOST_OPEN = 6;
     static final int GREATEST = 99;
 
-    final Tape tape;
+    final Tape tape = new Tape();
     final int[] code = new int[MOST_BYTES];
     int length;
     /** The TOKEN that is looked at, its first byte and the one behind it. */
@@ -964,10 +964,6 @@ public final class ElderChest {
     int value;
     /** The latest PART. */
     int part;
-
-    TextReader(Tape tape) {
-      this.tape = tape;
-    }
 
     /** The FAULT, or -1 if there is none: then the code is that of the TEXT. */
     int readTape() {
