@@ -1,3 +1,8 @@
+import java.lang.reflect.InvocationTargetException;
+import java.lang.reflect.Method;
+import java.util.Arrays;
+import java.util.Comparator;
+
 /** What the tests share: counting of wrong answers, the findings, and texts for THE TAPE. */
 final class Due {
   static final long BEYOND = -1000000001L;
@@ -10,6 +15,8 @@ final class Due {
 
   private static int asked;
   private static int wrong;
+  /** The test that runs, if runAll runs it. */
+  private static String running = "";
 
   private Due() {}
 
@@ -17,12 +24,41 @@ final class Due {
     asked++;
     if (got != want) {
       wrong++;
-      System.out.println(call + " answered " + got + ", due is " + want);
+      System.out.println(running + call + " answered " + got + ", due is " + want);
     }
   }
 
   static void due(String call, boolean holds) {
     due(call, holds ? 1 : 0, 1);
+  }
+
+  /**
+   * Runs each method of a test that is named after a promise or after Terms, and ends it. A method
+   * that throws, or that asks for no answer, is wrong.
+   */
+  static void runAll(Class<?> test) {
+    Method[] methods = test.getDeclaredMethods();
+    Arrays.sort(methods, Comparator.comparing(Method::getName));
+    for (Method method : methods) {
+      if (method.getName().matches("(promise|terms)[0-9].*")) {
+        run(method);
+      }
+    }
+    running = "";
+    end(test.getSimpleName());
+  }
+
+  private static void run(Method method) {
+    running = method.getName() + ": ";
+    int askedBefore = asked;
+    String threw = "";
+    try {
+      method.invoke(null);
+    } catch (InvocationTargetException | IllegalAccessException e) {
+      threw = e + ", " + e.getCause();
+    }
+    due("it threw " + threw, threw.isEmpty());
+    due("it asks for an answer", asked > askedBefore + 1);
   }
 
   /** Ends the test: with 1 if an answer was wrong, or if none was asked for. */
