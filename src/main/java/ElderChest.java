@@ -314,11 +314,13 @@ public final class ElderChest {
       return findings.tell(BEYOND);
     }
     int had = hangings.keysInTheEnd(elders.keysOf(set));
-    if (hangings.isOpenInTheEnd(h, had)) {
-      return 0;
+    for (int many = 0; many <= MOST_NEEDED; many++) {
+      int besides = leastBesides(h, had, many, KEYS);
+      if (besides >= 0) {
+        return besides;
+      }
     }
-    int besides = fewestBesides(h, had);
-    return besides == 0 ? findings.tell(NONE) : besides;
+    return findings.tell(NONE);
   }
 
   public int could(int h) {
@@ -613,24 +615,23 @@ public final class ElderChest {
     return findings.tell(NONE);
   }
 
-  /** The fewest KEYS with which a HANGING opens that doesn't with those had in the end; 0: none. */
-  private int fewestBesides(int h, int had) {
+  /** Of the SETS of so many KEYS, each below one, the least with which a HANGING opens; or -1. */
+  private int leastBesides(int h, int had, int many, int below) {
+    if (many <= 0) {
+      return hangings.isOpenInTheEnd(h, had) ? 0 : -1;
+    }
     // A KEY for which there is no LOCK, or that is had, is never one of the fewest.
     int useful = hangings.keysOfLocks() & ~had;
-    for (int many = 1; many <= MOST_NEEDED; many++) {
-      for (int keys = (1 << many) - 1; keys < 1 << KEYS; keys = nextOfAsMany(keys)) {
-        if ((keys & ~useful) == 0 && hangings.isOpenInTheEnd(h, had | keys)) {
-          return keys;
+    // By the greatest KEY first, then by the next: so SETS come by their bits.
+    for (int key = 0; key < below; key++) {
+      if ((useful >> key & 1) != 0) {
+        int others = leastBesides(h, had | 1 << key, many - 1, key);
+        if (others >= 0) {
+          return others | 1 << key;
         }
       }
     }
-    return 0;
-  }
-
-  /** The next greater number with as many bits; bits is above 0. */
-  private static int nextOfAsMany(int bits) {
-    int grown = bits + (bits & -bits);
-    return grown | (bits ^ grown) >>> 2 + Integer.numberOfTrailingZeros(bits);
+    return -1;
   }
 
   /** A LOCK for each SET of the list, with its KEY on the RINGS of the others, then the ROWS. */
@@ -1384,9 +1385,9 @@ public final class ElderChest {
     int firstFall() {
       for (int set = 0; set <= all; set++) {
         if ((set & ~all) == 0 && holds[set]) {
-          for (int rest = all & ~set; rest != 0; rest &= rest - 1) {
-            if (!holds[set | rest & -rest]) {
-              return 16 * set + Integer.numberOfTrailingZeros(rest);
+          for (int elder = 0; elder < MOST_ELDERS; elder++) {
+            if ((all >> elder & 1) != 0 && !holds[set | 1 << elder]) {
+              return 16 * set + elder;
             }
           }
         }
@@ -1400,9 +1401,11 @@ public final class ElderChest {
       for (int four = 0; four < 1 << MOST_FOR_FEWEST; four++) {
         int set = 0;
         int left = four;
-        for (int rest = all; rest != 0; rest &= rest - 1) {
-          set |= (left & 1) * (rest & -rest);
-          left >>= 1;
+        for (int elder = 0; elder < MOST_ELDERS; elder++) {
+          if ((all >> elder & 1) != 0) {
+            set |= (left & 1) << elder;
+            left >>= 1;
+          }
         }
         if (holds[set]) {
           truth |= 1 << four;
@@ -1428,8 +1431,8 @@ public final class ElderChest {
       for (int set = 0; set <= sets.all; set++) {
         if ((set & ~sets.all) == 0) {
           boolean below = false;
-          for (int rest = set; rest != 0 && !below; rest &= rest - 1) {
-            below = near[set ^ rest & -rest];
+          for (int elder = 0; elder < MOST_ELDERS && !below; elder++) {
+            below = (set >> elder & 1) != 0 && near[set & ~(1 << elder)];
           }
           near[set] = below || sets.holds[set];
           if (near[set] && !below) {
@@ -1445,8 +1448,8 @@ public final class ElderChest {
       for (int set = sets.all; set >= 0; set--) {
         if ((set & ~sets.all) == 0) {
           boolean above = false;
-          for (int rest = sets.all & ~set; rest != 0 && !above; rest &= rest - 1) {
-            above = near[set | rest & -rest];
+          for (int elder = 0; elder < MOST_ELDERS && !above; elder++) {
+            above = (sets.all & ~set & 1 << elder) != 0 && near[set | 1 << elder];
           }
           near[set] = above || !sets.holds[set];
           if (near[set] && !above) {
@@ -1561,7 +1564,7 @@ public final class ElderChest {
     }
 
     boolean hasFrom(int from, int n) {
-      return from >= 0 && n >= 0 && n <= size && from <= size - n;
+      return from >= 0 && n >= 0 && from <= size - n;
     }
 
     /** How many numbers, from the first on, are the SETS found. */

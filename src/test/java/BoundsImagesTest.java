@@ -1,3 +1,5 @@
+import java.util.Arrays;
+
 /** Promises 40 to 44 at their bounds: images, what is looked at, findings. */
 final class BoundsImagesTest {
   public static void main(String[] args) {
@@ -91,6 +93,11 @@ final class BoundsImagesTest {
     x.lend(0, 2, 23);
     Due.due("40: how often KEYS were lent", backOf(x).look(5), 1);
     Due.due("40: and to it", x.of(2, 4), 1);
+    x.key(0, 20, true);
+    x.lend(0, 3, 20);
+    int lock = backOf(x).lock(20, false);
+    Due.due("40: which KEYS were lent", x.could(lock), 0);
+    Due.due("40: with the KEY that was lent ahead of it", x.could(0), 5);
   }
 
   private static ElderChest backOf(ElderChest x) {
@@ -193,7 +200,7 @@ final class BoundsImagesTest {
     answers(x);
     x.use(0);
     long[] other = answers(x);
-    Due.due("41: they were others", !java.util.Arrays.equals(was, other));
+    Due.due("41: they were others", !Arrays.equals(was, other));
     x.undo();
     long[] is = answers(x);
     for (int i = 0; i < was.length; i++) {

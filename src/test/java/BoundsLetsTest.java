@@ -93,6 +93,21 @@ final class BoundsLetsTest {
     Due.due("Terms 3, 12: it is {0 1}", y.most(0), 3);
   }
 
+  /** Each ELDER alone: it is the only one of LETS and LEAST, all others are the only one of SHUT. */
+  static void terms3OneElder() {
+    for (int elder = 0; elder < 10; elder++) {
+      ElderChest x = lets(10, elder);
+      Due.read(x, "may any [" + elder + "]");
+      long[] answers = {x.lets(0, -1), x.lets(0, 0), x.shut(0, -1), x.shut(0, 0), x.least(-1),
+          x.least(0), x.most(-1), x.most(0)};
+      long one = 1 << elder;
+      long[] due = {1, one, 1, 1023 - one, 1, one, 1, 1023 - one};
+      for (int i = 0; i < due.length; i++) {
+        Due.due("Terms 3: of ELDER " + elder + ", answer " + i, answers[i], due[i]);
+      }
+    }
+  }
+
   /** "THE TEXT RISES, if no SET that MAY has one with one besides that MAY not." */
   static void terms3Rises() {
     String[] rising = {"may weigh 0", "may weigh 99", "may least 2 of everyone", "may not not any [0]",

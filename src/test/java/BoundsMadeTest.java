@@ -189,6 +189,57 @@ final class BoundsMadeTest {
     }
   }
 
+  /** Each TEXT that RISES for four, of which there are 166, as PlainChest tells it. */
+  static void promise32EachThatRises() {
+    int many = 0;
+    for (int truth = 1; truth < 0xFFFF; truth++) {
+      String text = rises(truth) ? textOf(truth) : "";
+      if (!text.isEmpty()) {
+        many++;
+        PlainChest plain = new PlainChest();
+        for (int i = 0; i < 4; i++) {
+          plain.elder(0);
+        }
+        for (int i = 0; i < text.length(); i++) {
+          plain.feed(text.charAt(i), 1);
+        }
+        plain.text();
+        Due.due("32: " + text, Bounds.withText(4, text).fewest(), plain.fewest());
+      }
+    }
+    Due.due("32: so many RISE", many, 166);
+  }
+
+  private static boolean rises(int truth) {
+    for (int set = 0; set < 16; set++) {
+      for (int elder = 0; elder < 4; elder++) {
+        if ((truth >> set & 1) > (truth >> (set | 1 << elder) & 1)) {
+          return false;
+        }
+      }
+    }
+    return true;
+  }
+
+  /** "may all [0 1] or all [2]", with the least SETS for which it is to hold. */
+  private static String textOf(int truth) {
+    StringBuilder text = new StringBuilder();
+    for (int set = 1; set < 16; set++) {
+      boolean least = (truth >> set & 1) == 1;
+      for (int elder = 0; elder < 4; elder++) {
+        least &= (set >> elder & 1) == 0 || (truth >> (set & ~(1 << elder)) & 1) == 0;
+      }
+      if (least) {
+        text.append(text.length() == 0 ? "may all[" : "or all[");
+        for (int elder = 0; elder < 4; elder++) {
+          text.append((set >> elder & 1) == 1 ? elder + " " : "");
+        }
+        text.append("]");
+      }
+    }
+    return text.toString();
+  }
+
   // ---- 33: "1 if a KEY on a RING is spare .., else 0. BEYOND. NONE: it isn't there."
 
   static void promise33Beyond() {
@@ -344,6 +395,23 @@ final class BoundsMadeTest {
     }
     Due.due("35: the last one's", x.heavy(1), 9);
     Bounds.answersAndLeaves("35: an answer", 2, Bounds::some, y -> y.heavy(0));
+  }
+
+  /** Whoever of ten is GONE, its RING doesn't count. */
+  static void promise35OfAllAlone() {
+    for (int elder = 0; elder < 10; elder++) {
+      ElderChest x = Bounds.made(Bounds::ten);
+      Due.giveKeys(x, elder, 0, 1, 2);
+      Due.giveKeys(x, (elder + 3) % 10, 20, 21);
+      Due.giveKeys(x, (elder + 7) % 10, 22);
+      Due.due("35: whose", x.heavy(1), elder);
+      Due.due("35: KEYS on it", x.heavy(0), 3);
+      Due.due("35: together", x.heavy(2), 6);
+      x.gone(elder, true);
+      Due.due("35: whose, of ALL", x.heavy(1), (elder + 3) % 10);
+      Due.due("35: KEYS on it, of ALL", x.heavy(0), 2);
+      Due.due("35: together, of ALL", x.heavy(2), 3);
+    }
   }
 
   // ---- 36: "0 if they are right; else 1 more than how many of them, from the first on, are. BEYOND:

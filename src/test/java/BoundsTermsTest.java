@@ -348,6 +348,57 @@ final class BoundsTermsTest {
     faultAt("may (weigh 1) (weigh 1)", 14);
   }
 
+  private static final String OPERAND = " not ( least all any weigh ";
+  private static final String BEHIND = " or and never ";
+
+  /** Each place of a TEXT, and the TOKENS that can stand there. */
+  private static final String[][] PLACES = {
+      {"", " may "}, {"may ", OPERAND}, {"may weigh ", " 5 "}, {"may least ", " 5 "},
+      {"may least 5 ", " of "}, {"may least 5 of ", " everyone [ "}, {"may all ", " everyone [ "},
+      {"may any ", " everyone [ "}, {"may any [", " 5 "}, {"may any [5 ", " 5 ] "},
+      {"may any [5 5 ", " 5 ] "}, {"may weigh 5 ", BEHIND}, {"may all everyone ", BEHIND},
+      {"may any [5] ", BEHIND}, {"may (weigh 5) ", BEHIND}, {"may not weigh 5 ", BEHIND},
+      {"may (weigh 5 ", " or and ) "}, {"may (any [5] ", " or and ) "},
+      {"may ((weigh 5) ", " or and ) "}, {"may weigh 5 or ", OPERAND},
+      {"may weigh 5 and ", OPERAND}, {"may not ", OPERAND}, {"may not not ", OPERAND},
+      {"may (", OPERAND}, {"may weigh 5 never ", OPERAND}, {"may weigh 5 or weigh 5 ", BEHIND},
+      {"may weigh 5 and weigh 5 ", BEHIND}, {"may weigh 5 never weigh 5 ", " or and "},
+      {"may weigh 5 never (weigh 5 ", " or and ) "}, {"may weigh 5 never not weigh 5 ", " or and "},
+      {"may weigh 5 never weigh 5 or ", OPERAND}, {"may weigh 5 never weigh 5 and ", OPERAND}};
+
+  /** "the first TOKEN that can't stand there": each TOKEN at each place. */
+  static void terms1EachTokenAtEachPlace() {
+    String[] tokens = {"may", "never", "or", "and", "not", "least", "of", "all", "any", "weigh",
+        "everyone", "5", "(", ")", "[", "]", "100", "x", "?"};
+    for (String[] place : PLACES) {
+      for (String token : tokens) {
+        ElderChest x = new ElderChest();
+        String text = place[0] + token;
+        int answer = Due.read(x, text);
+        // One that can stand there ends a TEXT, or has this end too early.
+        boolean stands = answer == 0 || answer == -1 - text.length();
+        boolean can = place[1].contains(" " + token + " ");
+        Due.due("Terms 1, 7: '" + text + "' can stand", stands ? 1 : 0, can ? 1 : 0);
+        Due.due("Terms 1, 7: '" + text + "', place", can || answer == -1 - place[0].length());
+      }
+    }
+  }
+
+  /** A FAULT leaves nothing for the next TEXT, however many there were. */
+  static void terms1TextsBehindFaults() {
+    ElderChest x = Due.withElders(1);
+    String early = "may " + "weigh 0 or ".repeat(10);
+    for (int i = 0; i < 15; i++) {
+      Due.due("Terms 1, 7: a FAULT at the end", Due.read(x, early), -1 - early.length());
+    }
+    String whole = "may " + "weigh 2or ".repeat(11) + "any[0]";
+    for (int i = 0; i < 8; i++) {
+      Due.due("Terms 1, 7: the TEXT " + i, Due.read(x, whole), i);
+      Due.due("Terms 1, 9: {0} by " + i, x.may(i, 1), 1);
+      Due.due("Terms 1, 9: the empty SET by " + i, x.may(i, 0), 0);
+    }
+  }
+
   /** "a WORD that is none of these: its own": each WORD less or more by a letter. */
   static void terms1OtherWords() {
     String[] words = {"may", "never", "or", "and", "not", "least", "of", "all", "any", "weigh",
@@ -398,6 +449,9 @@ final class BoundsTermsTest {
     faultAt("may not (((((weigh 1))))) and (((((((weigh 1)))))))", 36);
     faultAt("may not not not(((weigh 1)))or not not not(((weigh 1)))", -1);
     faultAt("may ((((((weigh 1)))))) never ((((((weigh 1))))))", -1);
+    faultAt("may ((((((weigh 1)))))) never (((((((weigh 1)))))))", 36);
+    faultAt("may weigh 1 never not not not not not not weigh 1", -1);
+    faultAt("may weigh 1 never not not not not not not not weigh 1", 42);
     faultAt("may not((((weigh 1)and(weigh 1))and(((weigh 1)))))", -1);
     faultAt("may not((((weigh 1)and(weigh 1))and((((weigh 1))))))", 38);
   }
