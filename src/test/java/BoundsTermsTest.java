@@ -490,6 +490,9 @@ final class BoundsTermsTest {
         mayIs(x, set, Integer.bitCount(set & 545) >= n, text);
       }
     }
+    ElderChest twice = Bounds.withText(10, "may least 2 of [9 9 0]");
+    mayIs(twice, 512, false, "one told twice");
+    mayIs(twice, 513, true, "one told twice, and another one");
     ElderChest all = Bounds.withText(10, "may least 99 of everyone");
     mayIs(all, 1023, false, "99");
     ElderChest few = Bounds.withText(3, "may least 1 of [3 9]");
