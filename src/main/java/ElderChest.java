@@ -930,7 +930,7 @@ public final class ElderChest {
     }
   }
 
-  /** Reads THE TAPE as a TEXT, one TOKEN ahead. */
+  /** Reads THE TAPE as a TEXT: first its TOKENS, then what they tell. */
   private static final class TextReader {
     static final int END = 0;
     static final int WRONG = 1;
@@ -957,35 +957,33 @@ public final class ElderChest {
     final Tape tape = new Tape();
     final int[] code = new int[MOST_BYTES];
     int length;
-    /** The TOKEN that is looked at, its first byte and the one behind it. */
-    int token;
-    int start;
-    int end;
-    /** Of a NUMBER, GREATEST and one at most. */
-    int value;
+    /** TOKENS, an END behind them; the place of each, and of a NUMBER what it is. */
+    final int[] tokens = new int[MOST_BYTES + 1];
+    final int[] places = new int[MOST_BYTES + 1];
+    final int[] values = new int[MOST_BYTES + 1];
+    /** Which TOKEN is looked at: never one behind the END, as that is never passed. */
+    int at;
     /** The latest PART. */
     int part;
 
     /** The FAULT, or -1 if there is none: then the code is that of the TEXT. */
     int readTape() {
+      findTokens();
       length = 0;
-      end = 0;
-      advance();
+      at = 0;
       boolean right = pass(MAY) && readEither(0);
-      if (right && token == NEVER) {
-        advance();
+      if (right && pass(NEVER)) {
         right = readEither(0);
         emit(Texts.NOT, 0, 0);
         emit(Texts.AND, 0, 0);
       }
-      return right && token == END ? -1 : start;
+      return right && tokens[at] == END ? -1 : places[at];
     }
 
     /** E. This and the next three carry how many ( and not are open. */
     boolean readEither(int open) {
       boolean right = readBoth(open);
-      for (int i = 0; right && token == OR && i < MOST_BYTES; i++) {
-        advance();
+      for (int i = 0; right && i < MOST_BYTES && pass(OR); i++) {
         right = readBoth(open);
         emit(Texts.OR, 0, 0);
       }
@@ -994,8 +992,7 @@ public final class ElderChest {
 
     boolean readBoth(int open) {
       boolean right = readNot(open);
-      for (int i = 0; right && token == AND && i < MOST_BYTES; i++) {
-        advance();
+      for (int i = 0; right && i < MOST_BYTES && pass(AND); i++) {
         right = readNot(open);
         emit(Texts.AND, 0, 0);
       }
@@ -1003,67 +1000,56 @@ public final class ElderChest {
     }
 
     boolean readNot(int open) {
-      if (token != NOT) {
+      if (tokens[at] != NOT) {
         return readOne(open);
       }
       if (open >= MOST_OPEN) {
         return false;
       }
-      advance();
+      at++;
       boolean right = readNot(open + 1);
       emit(Texts.NOT, 0, 0);
       return right;
     }
 
     boolean readOne(int open) {
-      switch (token) {
-        case LEAST:
-          advance();
-          int least = value;
-          return pass(NUMBER) && pass(OF) && readPart() && emit(Texts.LEAST_OF, least, part);
-        case ALL:
-          advance();
-          return readPart() && emit(Texts.ALL_OF, 0, part);
-        case ANY:
-          advance();
-          return readPart() && emit(Texts.ANY_OF, 0, part);
-        case WEIGH:
-          advance();
-          int weight = value;
-          return pass(NUMBER) && emit(Texts.WEIGH, weight, 0);
-        case OPEN:
-          if (open >= MOST_OPEN) {
-            return false;
-          }
-          advance();
-          return readEither(open + 1) && pass(CLOSE);
-        default:
-          return false;
+      if (pass(LEAST)) {
+        int least = values[at];
+        return pass(NUMBER) && pass(OF) && readPart() && emit(Texts.LEAST_OF, least, part);
       }
+      if (pass(ALL)) {
+        return readPart() && emit(Texts.ALL_OF, 0, part);
+      }
+      if (pass(ANY)) {
+        return readPart() && emit(Texts.ANY_OF, 0, part);
+      }
+      if (pass(WEIGH)) {
+        int weight = values[at];
+        return pass(NUMBER) && emit(Texts.WEIGH, weight, 0);
+      }
+      return open < MOST_OPEN && pass(OPEN) && readEither(open + 1) && pass(CLOSE);
     }
 
     boolean readPart() {
-      if (token == EVERYONE_WORD) {
+      if (pass(EVERYONE_WORD)) {
         part = EVERYONE;
-        advance();
         return true;
       }
       part = 0;
-      boolean right = pass(OPEN_LIST);
-      for (int i = 0; right && token == NUMBER && value < MOST_ELDERS && i < MOST_BYTES; i++) {
-        part |= 1 << value;
-        advance();
+      boolean right = pass(OPEN_LIST) && tokens[at] == NUMBER;
+      for (int i = 0; right && i < MOST_BYTES && values[at] < MOST_ELDERS; i++) {
+        part |= 1 << values[at];
+        at++;
+        right = tokens[at] == NUMBER;
       }
       return part != 0 && pass(CLOSE_LIST);
     }
 
     /** Goes on behind a TOKEN, if it is this one. */
     boolean pass(int wanted) {
-      if (token != wanted) {
-        return false;
-      }
-      advance();
-      return true;
+      boolean right = tokens[at] == wanted;
+      at += right ? 1 : 0;
+      return right;
     }
 
     boolean emit(int act, int number, int part) {
@@ -1075,23 +1061,43 @@ public final class ElderChest {
       return true;
     }
 
-    void advance() {
-      start = end;
-      while (start < tape.length && tape.bytes[start] == ' ') {
-        start++;
+    void findTokens() {
+      int found = 0;
+      int end = 0;
+      for (int place = 0; place < tape.length; place++) {
+        if (place >= end && tape.bytes[place] != ' ') {
+          end = endOf(place);
+          tokens[found] = tokenOf(place, end);
+          places[found] = place;
+          values[found] = tokens[found] == NUMBER ? numberOf(place, end) : 0;
+          found++;
+        }
       }
-      end = start;
-      value = 0;
-      if (start >= tape.length) {
-        token = END;
-      } else if (isLetter(tape.bytes[start])) {
-        token = wordToken();
-      } else if (isDigit(tape.bytes[start])) {
-        token = numberToken();
-      } else {
+      tokens[found] = END;
+      places[found] = tape.length;
+      values[found] = 0;
+    }
+
+    /** Where the TOKEN that begins at a place ends: it is of letters, of digits, or one byte. */
+    int endOf(int place) {
+      boolean letters = isLetter(tape.bytes[place]);
+      boolean digits = isDigit(tape.bytes[place]);
+      int end = place + 1;
+      while (end < tape.length
+          && (letters && isLetter(tape.bytes[end]) || digits && isDigit(tape.bytes[end]))) {
         end++;
-        token = signToken(tape.bytes[start]);
       }
+      return end;
+    }
+
+    int tokenOf(int place, int end) {
+      if (isLetter(tape.bytes[place])) {
+        return wordToken(place, end);
+      }
+      if (isDigit(tape.bytes[place])) {
+        return numberOf(place, end) > GREATEST ? WRONG : NUMBER;
+      }
+      return signToken(tape.bytes[place]);
     }
 
     static boolean isLetter(int b) {
@@ -1100,6 +1106,15 @@ public final class ElderChest {
 
     static boolean isDigit(int b) {
       return b >= '0' && b <= '9';
+    }
+
+    /** What digits tell, GREATEST and one at most. */
+    int numberOf(int place, int end) {
+      int value = 0;
+      for (int i = place; i < end; i++) {
+        value = Math.min(value * 10 + tape.bytes[i] - '0', GREATEST + 1);
+      }
+      return value;
     }
 
     static int signToken(int b) {
@@ -1117,57 +1132,46 @@ public final class ElderChest {
       }
     }
 
-    int numberToken() {
-      while (end < tape.length && isDigit(tape.bytes[end])) {
-        value = Math.min(value * 10 + tape.bytes[end] - '0', GREATEST + 1);
-        end++;
-      }
-      return value > GREATEST ? WRONG : NUMBER;
-    }
-
-    int wordToken() {
-      while (end < tape.length && isLetter(tape.bytes[end])) {
-        end++;
-      }
-      if (spells("may")) {
+    int wordToken(int place, int end) {
+      if (spells("may", place, end)) {
         return MAY;
       }
-      if (spells("never")) {
+      if (spells("never", place, end)) {
         return NEVER;
       }
-      if (spells("or")) {
+      if (spells("or", place, end)) {
         return OR;
       }
-      if (spells("and")) {
+      if (spells("and", place, end)) {
         return AND;
       }
-      if (spells("not")) {
+      if (spells("not", place, end)) {
         return NOT;
       }
-      if (spells("least")) {
+      if (spells("least", place, end)) {
         return LEAST;
       }
-      if (spells("of")) {
+      if (spells("of", place, end)) {
         return OF;
       }
-      if (spells("all")) {
+      if (spells("all", place, end)) {
         return ALL;
       }
-      if (spells("any")) {
+      if (spells("any", place, end)) {
         return ANY;
       }
-      if (spells("weigh")) {
+      if (spells("weigh", place, end)) {
         return WEIGH;
       }
-      return spells("everyone") ? EVERYONE_WORD : WRONG;
+      return spells("everyone", place, end) ? EVERYONE_WORD : WRONG;
     }
 
-    boolean spells(String word) {
-      if (end - start != word.length()) {
+    boolean spells(String word, int place, int end) {
+      if (end - place != word.length()) {
         return false;
       }
       for (int i = 0; i < word.length(); i++) {
-        if (tape.bytes[start + i] != word.charAt(i)) {
+        if (tape.bytes[place + i] != word.charAt(i)) {
           return false;
         }
       }
