@@ -182,6 +182,18 @@ final class BoundsTermsTest {
     faultAt("may weigh 1" + " ".repeat(107) + "or", 120);
   }
 
+  /** As many TOKENS as bytes: each is one byte, on a full TAPE. */
+  static void terms1MostTokens() {
+    for (String one : new String[] {"(", ")", "[", "]", "?", "a(", "0[", "()", "[0"}) {
+      String full = one.repeat(120 / one.length());
+      faultAt(full, 0);
+      // A TEXT ahead of them, so that they are read from its end on.
+      faultAt("may weigh 1" + ")" + full.substring(12), 11);
+    }
+    faultAt("may any[" + "0 1 ".repeat(28), 120);
+    faultAt("may any[" + "0 1 ".repeat(27) + "0 1]", -1);
+  }
+
   /** -1: there is none. */
   private static void faultAt(String text, int fault) {
     ElderChest x = new ElderChest();
